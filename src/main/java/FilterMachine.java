@@ -18,9 +18,6 @@ public final class FilterMachine {
     // What is known is held in slots: the registers, the frame, the constant operand of an instruction, the stack.
     private static final int REGISTERS = 8, RUN_REGISTERS = 9, FRAME_SLOT = 8, CONSTANT_SLOT = 9, STACK_SLOT = 10, SLOTS = 16, SAVED_SLOTS = 160;
 
-    // In a run a pointer bears a mark above its low 32 bits, so that none is equal to a word.
-    private static final long BYTE_POINTER = 1L << 32, CELL_POINTER = 2L << 32;
-
     // Programs 0 and 1 and the draft stand one behind the other.
     private final int[] ops = new int[ALL_INSTRUCTIONS];
     private final int[] targets = new int[ALL_INSTRUCTIONS];
@@ -147,9 +144,10 @@ public final class FilterMachine {
         if (lengths[p] == 0) {
             return NONE;
         }
-        registers[1] = BYTE_POINTER;
-        registers[2] = BYTE_POINTER + packetLength;
-        registers[FRAME_SLOT] = CELL_POINTER;
+        // In a run a pointer is a bare index: the verifier has shown that it is never used as anything else.
+        registers[1] = 0;
+        registers[2] = packetLength;
+        registers[FRAME_SLOT] = 0;
         executed = 0;
         int current = 0;
         // Jumps only lead onward, so no instruction has a second turn.
@@ -485,15 +483,15 @@ public final class FilterMachine {
         int otherwise = opposite(relation);
         boolean mayJump = mayHold(relation, d, second);
         boolean mayPass = mayHold(otherwise, d, second);
+        // Where only one way is open, every word goes that way and nothing is learnt.
         if (!mayPass) {
-            learn(relation, d, second);
             at = goalOfJump(i);
             return OK;
         }
         if (mayJump) {
             saveBranch();
+            learn(otherwise, d, second);
         }
-        learn(otherwise, d, second);
         at++;
         return OK;
     }
@@ -550,6 +548,7 @@ public final class FilterMachine {
         }
     }
 
+    // Both ways are open here, so n is neither below the interval nor above it.
     private void cut(int relation, int d, long n) {
         switch (relation) {
             case EQUAL:
@@ -561,10 +560,10 @@ public final class FilterMachine {
                 his[d] = his[d] == n ? n - 1 : his[d];
                 break;
             case LESS:
-                his[d] = his[d] < n ? his[d] : n - 1;
+                his[d] = n - 1;
                 break;
             default:
-                los[d] = los[d] > n ? los[d] : n;
+                los[d] = n;
                 break;
         }
     }
@@ -713,9 +712,9 @@ public final class FilterMachine {
         his[to] = his[from];
     }
 
+    // For a slot that is SCALAR and stays so.
     private void knowWords(int slot, long lo, long hi) {
         boolean words = lo >= 0 && lo <= GREATEST_WORD && hi >= 0 && hi <= GREATEST_WORD;
-        kinds[slot] = SCALAR;
         los[slot] = words ? lo : 0;
         his[slot] = words ? hi : GREATEST_WORD;
     }
@@ -746,25 +745,22 @@ public final class FilterMachine {
         }
     }
 
-    // A pointer that is moved keeps its mark; only the low 32 bits are reckoned with.
     private static long result(int operation, long first, long second) {
-        long mark = first & ~GREATEST_WORD;
-        long low = first & GREATEST_WORD;
         switch (operation) {
             case MOV:
                 return second;
             case ADD:
-                return mark | ((low + second) & GREATEST_WORD);
+                return (first + second) & GREATEST_WORD;
             case SUB:
-                return mark | ((low - second) & GREATEST_WORD);
+                return (first - second) & GREATEST_WORD;
             case MUL:
-                return mark | ((low * second) & GREATEST_WORD);
+                return (first * second) & GREATEST_WORD;
             case AND:
-                return mark | (low & second);
+                return first & second;
             case OR:
-                return mark | low | second;
+                return first | second;
             default:
-                return mark | (low >> (second & 31));
+                return first >> (second & 31);
         }
     }
 
@@ -785,6 +781,7 @@ public final class FilterMachine {
         int op = ops[i];
         int d = targets[i];
         int s = sources[i];
+        // A pointer below the first cell has wrapped around as a word; as an int it is below 0 again.
         int index = (int) registers[op == STORE ? d : s] + offsets[i];
         // The verifier has shown that each index is inside; it is looked at all the same.
         if (index < 0 || index >= (op == LOADB ? packetLength : ALL_CELLS)) {
@@ -802,7 +799,8 @@ public final class FilterMachine {
     private void performMapCall(int op, int map) {
         int slot = slotOfKey(map, registers[1]);
         if (op == LOOKUP) {
-            registers[0] = slot < 0 ? 0 : CELL_POINTER + STACK_CELLS + slot * VALUE_CELLS;
+            // The stack's cells come first, so no pointer to a value is 0.
+            registers[0] = slot < 0 ? 0 : STACK_CELLS + slot * VALUE_CELLS;
             return;
         }
         if (op == DELETE) {

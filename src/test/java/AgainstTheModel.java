@@ -28,7 +28,7 @@ public final class AgainstTheModel extends Checks {
         }
         System.out.println("verdicts OK, OUT, UNSET, KIND, BOUNDS, COMPLEX, DEAD: " + Arrays.toString(verdicts));
         for (int count : verdicts) {
-            due("every verdict is met often", count >= 20, true);
+            holds("every verdict is met often", count >= 20);
         }
         finish();
     }
@@ -188,7 +188,7 @@ public final class AgainstTheModel extends Checks {
             }
         }
         if (p == latestOk()) {
-            due("within least and most: " + text, x.least() <= want && want <= x.most(), true);
+            holds("within least and most: " + text, x.least() <= want && want <= x.most());
         }
     }
 

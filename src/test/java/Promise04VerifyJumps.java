@@ -1,8 +1,9 @@
 /** Which ways of a conditional jump are followed, and what is known on them. */
 public final class Promise04VerifyJumps extends Checks {
-    /** Register 0 gets SCALAR 100..355, register 7 SCALAR 0..1, register 6 SCALAR 100..101 (on one path single words). */
-    private static final int[][] START = rows(mov(6, 0), jumpReg(JGE, 1, 2, 1), loadByte(6, 1, 0),
-        movReg(7, 6), imm(AND, 7, 1), movReg(0, 6), imm(ADD, 0, 100), movReg(6, 7), imm(ADD, 6, 100));
+    /** Gives SCALARs on a single path: register 0 100..355, 4 355..356, 5 0..100, 6 100..101, 7 0..1. */
+    private static final int[][] START = rows(mov(1, 0), delete(0), movReg(7, 0),
+        imm(MUL, 0, 255), imm(ADD, 0, 100), movReg(6, 7), imm(ADD, 6, 100),
+        movReg(5, 0), imm(AND, 5, 100), movReg(4, 7), imm(ADD, 4, 355));
 
     public static void main(String[] args) {
         cuts();
@@ -22,8 +23,13 @@ public final class Promise04VerifyJumps extends Checks {
     /** The ends of register 0 on the next instruction's way, then on the jump's way (which leaps one instruction). */
     private static void ways(String what, int[] jump, long nextLeast, long nextMost, long goalLeast, long goalMost) {
         fresh();
-        passes(what + ", next", nextLeast, nextMost, join(START, jump, ja(1), mov(0, (int) nextLeast), exit()));
-        passes(what + ", goal", goalLeast, goalMost, join(START, jump, mov(0, (int) goalLeast), exit()));
+        // The other way's answer is once the one end and once the other, so that it hides neither.
+        for (long end : new long[] {nextLeast, nextMost}) {
+            passes(what + ", next", nextLeast, nextMost, join(START, jump, ja(1), mov(0, (int) end), exit()));
+        }
+        for (long end : new long[] {goalLeast, goalMost}) {
+            passes(what + ", goal", goalLeast, goalMost, join(START, jump, mov(0, (int) end), exit()));
+        }
     }
 
     private static void cuts() {
@@ -76,7 +82,15 @@ public final class Promise04VerifyJumps extends Checks {
         ways("JNE of intervals", jumpReg(JNE, 0, 6, 1), 100, 355, 100, 355);
         ways("JLT of intervals", jumpReg(JLT, 0, 6, 1), 100, 355, 100, 355);
         ways("JGE of intervals", jumpReg(JGE, 0, 6, 1), 100, 355, 100, 355);
+        ways("JEQ that only touches at lo", jumpReg(JEQ, 0, 5, 1), 100, 355, 100, 355);
+        ways("JEQ that only touches at hi", jumpReg(JEQ, 0, 4, 1), 100, 355, 100, 355);
+        ways("JGE that only touches at hi", jumpReg(JGE, 0, 4, 1), 100, 355, 100, 355);
+        ways("JNE that only touches at lo", jumpReg(JNE, 0, 5, 1), 100, 355, 100, 355);
         ways("JLT of itself", jumpReg(JLT, 0, 0, 1), 100, 355, 100, 355);
+        passes("a single word and an interval from it on may differ", 100, 5000,
+            join(START, mov(3, 100), jumpReg(JEQ, 3, 6, 1), mov(0, 5000), exit()));
+        passes("a single word and an interval up to it may differ", 100, 5000,
+            join(START, mov(3, 100), jumpReg(JEQ, 3, 5, 1), mov(0, 5000), exit()));
         passes("the first one is single: nothing is cut", 100, 355,
             join(START, mov(4, 100), jumpReg(JEQ, 4, 0, 0), exit()));
         passes("a copy is not cut", 100, 355, join(START, movReg(4, 0), jump(JEQ, 4, 100, 1), mov(0, 101), exit()));
@@ -121,6 +135,8 @@ public final class Promise04VerifyJumps extends Checks {
         refused("end >= packet: 0 bytes", BOUNDS, 2, mov(0, 0), jumpReg(JLT, 2, 1, 1), loadByte(0, 1, 0), exit());
         passes("a lesser test takes nothing back", 0, 255, join(three,
             jumpReg(JGE, 3, 2, 2), jumpReg(JGE, 1, 2, 1), loadByte(0, 1, 3), exit()));
+        passes("SAFE goes along both ways", 0, 255, join(three,
+            jumpReg(JGE, 3, 2, 2), jumpReg(JGE, 1, 2, 0), loadByte(0, 1, 3), exit()));
         passes("each way has its own", 0, 255, join(three, jumpReg(JGE, 3, 2, 2), loadByte(0, 1, 3), exit(),
             jumpReg(JGE, 1, 2, 1), loadByte(0, 1, 0), exit()));
         refused("the other way did not learn it", BOUNDS, 6, join(three, jumpReg(JGE, 3, 2, 2), loadByte(0, 1, 3), exit(),

@@ -25,13 +25,14 @@ public final class Promise04VerifyMaps extends Checks {
         refused("register 1 is PACKET", all ? UNSET : KIND, 0, call(op), exit());
         refused("register 1 is PACKET, the rest is set", KIND, 2, mov(2, 0), mov(3, 0), call(op), exit());
         refused("register 1 is nothing", UNSET, 4, join(ready(), delete(0), call(op), exit()));
+        refused("register 1 alone is nothing", UNSET, 6, join(ready(), delete(0), mov(2, 6), mov(3, 7), call(op), exit()));
         int fault = all ? KIND : OK;
         int[][] exit = rows(mov(0, 0), exit());
         verdict("register 2 is END", fault, 2, join(join(rows(mov(1, 5), mov(3, 7)), call(op)), exit));
         verdict("register 3 is FRAME", fault, 3, join(join(rows(mov(1, 5), mov(2, 7), movReg(3, FRAME)), call(op)), exit));
         verdict("register 3 is nothing", all ? UNSET : OK, 2, join(join(rows(mov(1, 5), mov(2, 7)), call(op)), exit));
-        verdict("register 2 is nothing", all ? UNSET : OK, 5,
-            join(join(ready(), delete(0), mov(1, 5), call(op)), exit));
+        verdict("register 2 is nothing", all ? UNSET : OK, 6,
+            join(join(ready(), delete(0), mov(1, 5), mov(3, 7), call(op)), exit));
         verdict("UNSET of 3 is before KIND of 1", all ? UNSET : KIND, 1, join(join(rows(mov(2, 5)), call(op)), exit));
     }
 

@@ -102,6 +102,10 @@ public final class Promise04VerifyMemory extends Checks {
         refused("its lo goes below", BOUNDS, 8, join(moved, loadByte(0, 1, -1), exit()));
         passes("the test of an interval proves its lo", 0, 255, join(moved, imm(ADD, 1, 6), jumpReg(JLT, 1, 2, 1), exit(),
             loadByte(0, 1, -1), exit()));
+        passes("end >= an interval proves its lo", 0, 255, join(moved, imm(ADD, 1, 6), jumpReg(JGE, 2, 1, 1), exit(),
+            loadByte(0, 1, -2), exit()));
+        refused("and no more than its lo", BOUNDS, 11, join(moved, imm(ADD, 1, 6), jumpReg(JGE, 2, 1, 1), exit(),
+            loadByte(0, 1, -1), exit()));
         refused("and no more", BOUNDS, 11, join(moved, imm(ADD, 1, 6), jumpReg(JLT, 1, 2, 1), exit(),
             loadByte(0, 1, 0), exit()));
     }

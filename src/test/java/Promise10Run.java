@@ -38,7 +38,7 @@ public final class Promise10Run extends Checks {
             if (x.verify(0) == OK) {
                 due(op + " of " + a + " and imm " + b, x.run(0), want[op - JEQ] ? 1 : 2);
             } else {
-                due("only a jump that is always taken is DEAD: " + op + ", " + b, op == JGE && b == 0, true);
+                holds("only a jump that is always taken is DEAD: " + op + ", " + b, op == JGE && b == 0);
             }
         }
     }

@@ -25,6 +25,13 @@ public final class Promise13Keys extends Checks {
         for (int k = 0; k < 5; k++) {
             due("value of " + k, x.value(0, k, 1), k == 1 ? -1 : k + 10);
         }
+        fresh();
+        put(0, 6, 0);
+        put(0, 6, 0);
+        due("the only key put twice", x.keys(0), 1);
+        take(0, 6, 1);
+        due("the only key taken away", x.keys(0), 0);
+        take(0, 6, 0);
         finish();
     }
 

@@ -24,16 +24,26 @@ class Checks {
         askedOfThisObject = 0;
     }
 
+    /** One call of the object and the answer that is due. */
     static void due(String what, long got, long want) {
-        asked++;
         askedOfThisObject++;
         if (askedOfThisObject > 450) {
             throw new IllegalStateException("too many calls of one object; use fresh()");
         }
+        same(what, got, want);
+    }
+
+    /** Something that is asked of no object. */
+    static void same(String what, long got, long want) {
+        asked++;
         if (got != want) {
             wrong++;
             System.out.println(what + " answered " + got + ", due is " + want);
         }
+    }
+
+    static void holds(String what, boolean good) {
+        same(what, good ? 1 : 0, 1);
     }
 
     static void due(String what, boolean got, boolean want) {
