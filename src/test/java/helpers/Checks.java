@@ -17,11 +17,28 @@ class Checks {
     private static int wrong = 0;
     private static int asked = 0;
     private static int askedOfThisObject = 0;
+    private static String sentence = "";
+    private static int askedOfThisSentence = 1;
 
     /** The document promises nothing behind an object's 512th call, so a test takes a new one before that. */
     static void fresh() {
         x = new FilterMachine();
         askedOfThisObject = 0;
+    }
+
+    /** What is asked from here on holds this sentence of the document; a sentence of which nothing is asked is wrong. */
+    static void sentence(String words) {
+        endSentence();
+        sentence = words;
+        askedOfThisSentence = 0;
+        fresh();
+    }
+
+    private static void endSentence() {
+        if (askedOfThisSentence == 0) {
+            wrong++;
+            System.out.println("[" + sentence + "] nothing was asked");
+        }
     }
 
     /** One call of the object and the answer that is due. */
@@ -36,9 +53,10 @@ class Checks {
     /** Something that is asked of no object. */
     static void same(String what, long got, long want) {
         asked++;
+        askedOfThisSentence++;
         if (got != want) {
             wrong++;
-            System.out.println(what + " answered " + got + ", due is " + want);
+            System.out.println((sentence.isEmpty() ? "" : "[" + sentence + "] ") + what + " answered " + got + ", due is " + want);
         }
     }
 
@@ -51,6 +69,7 @@ class Checks {
     }
 
     static void finish() {
+        endSentence();
         System.out.println(asked + " answers, " + wrong + " not as due");
         if (wrong != 0 || asked == 0) {
             System.exit(1);
